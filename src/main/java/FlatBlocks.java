@@ -47,7 +47,7 @@ public final class FlatBlocks {
     }
 
     public int again(int bytes, int times) {
-        if (bytes < 1 || bytes > LONGEST_MATCH || bytes > text.size || times < 1 || times > MOST_TEXT) {
+        if (bytes < 1 || bytes > LONGEST_MATCH || times < 1 || times > MOST_TEXT) {
             return BAD;
         }
         return text.repeat(bytes, bytes * times) ? text.size : BAD;
@@ -193,7 +193,10 @@ public final class FlatBlocks {
             return i >= 0 && i < size ? bytes[i] & 255 : BAD;
         }
 
-        /** Byte by byte, so that bytes that have just come can be the source of later ones. */
+        /**
+         * Byte by byte, so that bytes that have just come can be the source of later ones; false, and
+         * nothing comes, if there are not so many bytes before or there is no room for all.
+         */
         boolean repeat(int distance, int length) {
             if (distance < 1 || distance > size || length > bytes.length - size) {
                 return false;

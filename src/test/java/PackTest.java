@@ -21,6 +21,7 @@ public final class PackTest {
         sizesAlike();
         noRoom();
         packedAfterMoreBytes();
+        keptAfterMatches();
         CHECKS.end();
     }
 
@@ -312,7 +313,21 @@ public final class PackTest {
         x.again(24, 150);
         due("again", x, repeated(text, 24, 150), 64);
         x.reset();
-        Texts.feed(x, bytesOf("cabcabcab"));
-        due("after reset", x, bytesOf("cabcabcab"), 64);
+        text = bytesOf("the cabs are the cabs that are there, and the cabs that are there are the cabs");
+        Texts.feed(x, text);
+        x.again(40, 5);
+        CHECKS.due("after reset: matches", due("after reset", x, repeated(text, 40, 5), 64).matches > 0, true);
+    }
+
+    private static void keptAfterMatches() {
+        int[] text = repeated(bytesOf("abc"), 3, 8);
+        FlatBlocks x = new FlatBlocks(5000, 6000, 64);
+        Texts.feed(x, text);
+        CHECKS.due("matches at first", due("matches", x, text, 64).matches, 1);
+        int[] chance = new Random(9).ints(300, 0, 256).toArray();
+        int[] all = Arrays.copyOf(text, text.length + chance.length);
+        System.arraycopy(chance, 0, all, text.length, chance.length);
+        Texts.feed(x, chance);
+        CHECKS.due("then kept", due("kept", x, all, 64).bytes.length, all.length + 5);
     }
 }
