@@ -1,5 +1,5 @@
 /** Counts the answers of one test and prints each one that is not due. */
-final class Checks {
+class Checks {
     private int asked;
     private int wrong;
 
@@ -11,8 +11,12 @@ final class Checks {
         }
     }
 
-    void due(String what, boolean got, boolean want) {
+    final void due(String what, boolean got, boolean want) {
         due(what, got ? 1 : 0, want ? 1 : 0);
+    }
+
+    final int asked() {
+        return asked;
     }
 
     /** Ends the program with exit code 1 if an answer was wrong, or if nothing was asked. */

@@ -1,5 +1,7 @@
 import java.util.ArrayList;
+import java.util.Arrays;
 import java.util.List;
+import java.util.stream.IntStream;
 
 /**
  * Packing as the document tells it, done in the slowest and plainest way, to compare with: every
@@ -12,12 +14,22 @@ final class PlainPacker {
     final int matches;
     final int toldSize;
     final int keptSize;
-    boolean symbolsHalved;
-    boolean lengthsHalved;
+    /** A byte, or a length and a distance. */
+    final List<int[]> tokens = new ArrayList<>();
+    /** A symbol by which lengths are told, the number behind it, how many bits that has. */
+    List<int[]> cells = new ArrayList<>();
+    int[] symbolLengths;
+    int[] distanceLengths;
+    int symbolsTold;
+    int distancesTold;
+    int lengthsTold;
+    /** The greatest depths of symbols, of distance symbols and of lengths, before any count is halved. */
+    int symbolDepth;
+    int distanceDepth;
+    int lengthDepth;
 
     private final int[] text;
     private final int chain;
-    private final List<int[]> tokens = new ArrayList<>();
 
     PlainPacker(int[] text, int chain) {
         this.text = text;
@@ -75,8 +87,10 @@ final class PlainPacker {
                 distanceCounts[distanceRow(token[1])[0]]++;
             }
         }
-        int[] symbolLengths = lengthsOf(symbolCounts, 15);
-        int[] distanceLengths = lengthsOf(distanceCounts, 15);
+        symbolLengths = lengthsOf(symbolCounts, 15);
+        symbolDepth = greatest(depthsOf(symbolCounts));
+        distanceLengths = lengthsOf(distanceCounts, 15);
+        distanceDepth = greatest(depthsOf(distanceCounts));
         String[] symbolCodes = codesOf(symbolLengths);
         String[] distanceCodes = codesOf(distanceLengths);
         for (int[] token : tokens) {
@@ -89,11 +103,11 @@ final class PlainPacker {
                 body.append(distanceCodes[d[0]]).append(number(d[1], d[2]));
             }
         }
-        return number(1, 1) + number(2, 2) + telling(symbolLengths, distanceLengths) + body + symbolCodes[256];
+        return number(1, 1) + number(2, 2) + telling() + body + symbolCodes[256];
     }
 
     /** The symbol, the number behind it, how many bits that has. */
-    private static int[] lengthRow(int length) {
+    static int[] lengthRow(int length) {
         if (length == 258) {
             return new int[] {28, 0, 0};
         }
@@ -106,7 +120,7 @@ final class PlainPacker {
         }
     }
 
-    private static int[] distanceRow(int distance) {
+    static int[] distanceRow(int distance) {
         for (int d = 0; ; d++) {
             int e = d < 4 ? 0 : d / 2 - 1;
             int least = d < 4 ? 1 + d : 1 + (2 + d % 2) * (1 << e);
@@ -116,23 +130,21 @@ final class PlainPacker {
         }
     }
 
-    private int[] lengthsOf(int[] howOften, int longest) {
+    private static int[] lengthsOf(int[] howOften, int longest) {
         int[] counts = howOften.clone();
         while (true) {
             int[] depths = depthsOf(counts);
-            int most = 0;
-            for (int depth : depths) {
-                most = Math.max(most, depth);
-            }
-            if (most <= longest) {
+            if (greatest(depths) <= longest) {
                 return depths;
             }
-            symbolsHalved |= longest == 15;
-            lengthsHalved |= longest == 7;
             for (int i = 0; i < counts.length; i++) {
                 counts[i] = (counts[i] + 1) / 2;
             }
         }
+    }
+
+    private static int greatest(int[] depths) {
+        return IntStream.of(depths).max().orElse(0);
     }
 
     /** A node is its weight, its rank among like ones, and the symbols below it. */
@@ -175,7 +187,7 @@ final class PlainPacker {
         return nodes.remove(best);
     }
 
-    private static String[] codesOf(int[] lengths) {
+    static String[] codesOf(int[] lengths) {
         String[] codes = new String[lengths.length];
         int next = 0;
         for (int length = 1; length <= 15; length++) {
@@ -190,31 +202,31 @@ final class PlainPacker {
         return codes;
     }
 
-    private String telling(int[] symbolLengths, int[] distanceLengths) {
-        int symbols = 286;
-        while (symbols > 257 && symbolLengths[symbols - 1] == 0) {
-            symbols--;
+    private String telling() {
+        symbolsTold = 286;
+        while (symbolsTold > 257 && symbolLengths[symbolsTold - 1] == 0) {
+            symbolsTold--;
         }
-        int distances = 30;
-        while (distances > 1 && distanceLengths[distances - 1] == 0) {
-            distances--;
+        distancesTold = 30;
+        while (distancesTold > 1 && distanceLengths[distancesTold - 1] == 0) {
+            distancesTold--;
         }
-        int[] row = new int[symbols + distances];
-        System.arraycopy(symbolLengths, 0, row, 0, symbols);
-        System.arraycopy(distanceLengths, 0, row, symbols, distances);
-        List<int[]> cells = cellsOf(row);
+        int[] row = Arrays.copyOf(symbolLengths, symbolsTold + distancesTold);
+        System.arraycopy(distanceLengths, 0, row, symbolsTold, distancesTold);
+        cells = cellsOf(row);
         int[] counts = new int[19];
         for (int[] cell : cells) {
             counts[cell[0]]++;
         }
         int[] lengths = lengthsOf(counts, 7);
+        lengthDepth = greatest(depthsOf(counts));
         String[] codes = codesOf(lengths);
-        int told = 19;
-        while (told > 4 && lengths[ORDER[told - 1]] == 0) {
-            told--;
+        lengthsTold = 19;
+        while (lengthsTold > 4 && lengths[ORDER[lengthsTold - 1]] == 0) {
+            lengthsTold--;
         }
-        StringBuilder bits = new StringBuilder(number(symbols - 257, 5) + number(distances - 1, 5) + number(told - 4, 4));
-        for (int i = 0; i < told; i++) {
+        StringBuilder bits = new StringBuilder(number(symbolsTold - 257, 5) + number(distancesTold - 1, 5) + number(lengthsTold - 4, 4));
+        for (int i = 0; i < lengthsTold; i++) {
             bits.append(number(lengths[ORDER[i]], 3));
         }
         for (int[] cell : cells) {
