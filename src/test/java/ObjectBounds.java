@@ -1,3 +1,5 @@
+import java.util.Random;
+
 /** What it is, and promises 1 to 3, 5 to 7, 9, 11 to 13: the rows of an object, and what each call refuses. */
 final class ObjectBounds {
     private static final int BAD = FlatBlocks.BAD;
@@ -11,6 +13,7 @@ final class ObjectBounds {
 
     void run() {
         whatItIs();
+        constants();
         newObject();
         feed();
         again();
@@ -47,6 +50,23 @@ final class ObjectBounds {
         s.due("call 510, unpack()", x.unpack(), 0);
         s.due("call 511, same()", x.same(), true);
         s.due("call 512, out(506)", x.out(506), text[506]);
+    }
+
+    private void constants() {
+        s.of("The public face", "public static final int BAD = -1, TRUNCATED = 1, BAD_KIND = 2, BAD_KEPT = 3, BAD_CODES = 4,"
+            + " BAD_SYMBOL = 5, TOO_FAR = 6, FULL = 7;");
+        int[] reasons = {FlatBlocks.TRUNCATED, FlatBlocks.BAD_KIND, FlatBlocks.BAD_KEPT, FlatBlocks.BAD_CODES, FlatBlocks.BAD_SYMBOL,
+            FlatBlocks.TOO_FAR, FlatBlocks.FULL};
+        s.due("BAD", FlatBlocks.BAD, -1);
+        for (int i = 0; i < reasons.length; i++) {
+            s.due("reason " + (i + 1), reasons[i], i + 1);
+        }
+        Bits[] streams = {new Bits(), new Bits().block(true, 3), new Bits().block(true, 0).toWholeByte().number(0, 32),
+            new Bits().block(true, 2).number(31, 14), new Bits().block(true, 1).fixed(286), new Bits().block(true, 1).match(3, 1),
+            new Bits().block(true, 1).fixed(1, 2)};
+        for (int i = 0; i < streams.length; i++) {
+            s.due("unpack() with reason " + (i + 1), Streams.loaded(1, streams[i].bytes()).unpack(), i + 1);
+        }
     }
 
     private void newObject() {
@@ -185,6 +205,12 @@ final class ObjectBounds {
         for (int times : noTimes) {
             s.due("again(1, " + times + ")", x.again(1, times), BAD);
         }
+        // 2^32 and some more, as an int: no room for so many, although the rest would fit.
+        int[][] around = {{1, 1 << 30}, {2, 1 << 31 | 1}, {3, 1_431_655_767}, {2, 1 << 30 | 1}};
+        for (int[] row : around) {
+            s.due("again(" + row[0] + ", " + row[1] + ")", x.again(row[0], row[1]), BAD);
+        }
+        s.due("count(0) after these", x.count(0), 3);
         s.due("again(2, 1)", x.again(2, 1), 5);
         s.due("again(3, 2)", x.again(3, 2), 11);
         Texts.dueRoundTrip(s, "the text", x, new int[] {1, 2, 3, 2, 3, 3, 2, 3, 3, 2, 3});
@@ -387,6 +413,11 @@ final class ObjectBounds {
         s.due("the rooms stay: again(7, 13)", x.again(7, 13), 98);
         x.reset();
         s.due("pack() of no bytes", x.pack(), 5);
+        // Nothing of the text before is left where matches are searched.
+        x.reset();
+        int[] other = Packs.repeated(new int[] {1, 9, 8, 7, 2, 9, 8}, 7, 13);
+        Texts.feed(x, other);
+        Packs.due(s, "another text, of matches", x, other, 3);
 
         // bit() is no row: it tells of the last unpack(), whatever came since.
         x = new FlatBlocks(100, 200, 3);
@@ -423,6 +454,14 @@ final class ObjectBounds {
         s.due("count(4), 404 bytes like those 4 before", x.count(4), 2);
         x.feed(1);
         s.due("count(4) before the next pack()", x.count(4), 2);
+        x = new FlatBlocks(1000, 1000, 3);
+        Texts.feed(x, new int[] {9, 8, 7});
+        x.again(3, 8);
+        x.pack();
+        s.due("count(4) of 24 bytes like those 3 before", x.count(4), 1);
+        Texts.feed(x, new Random(12).ints(300, 0, 256).toArray());
+        s.due("pack(), now kept", x.pack(), 332);
+        s.due("count(4), now kept", x.count(4), 0);
 
         s.of("Promise 13: count", "BAD: another number.");
         int[] wrong = {-1, 5, 6, 7, 256, Integer.MIN_VALUE, Integer.MAX_VALUE};

@@ -315,7 +315,9 @@ final class PackBounds {
     /** The symbols by which lengths are told, each with its number if it has one. */
     private static String cellsOf(PlainPacker plain, int from, int to) {
         List<int[]> cells = plain.cells.subList(from, Math.min(to, plain.cells.size()));
-        return cells.stream().map(cell -> cell[2] == 0 ? String.valueOf(cell[0]) : cell[0] + ":" + cell[1]).collect(Collectors.joining(" "));
+        return cells.stream()
+            .map(cell -> cell[2] == 0 ? String.valueOf(cell[0]) : cell[0] + ":" + cell[1])
+            .collect(Collectors.joining(" "));
     }
 
     private void dueCells(String name, int[] text, String due) {
@@ -325,7 +327,8 @@ final class PackBounds {
     }
 
     private void rowOfLengths() {
-        s.of(TERMS, "lengths of both in one row, from left: of 0s, if there are 11 or more, 18 for as many as it can, else, if 3 or more, 17;");
+        s.of(TERMS, "lengths of both in one row, from left: of 0s, if there are 11 or more, 18 for as many as it can,"
+            + " else, if 3 or more, 17;");
         dueZeros(1, "0");
         dueZeros(2, "0 0");
         dueZeros(3, "17:0");
@@ -344,7 +347,8 @@ final class PackBounds {
         dueZeros(254, "18:127 18:105");
         // From left: zeros in front, and those of distance symbols.
         dueCells("255 alone", Packs.like(255, 1 + 2 * 258), "18:127 18:106 2 2");
-        PlainPacker plain = Packs.due(s, "the last distance", Packs.joined(Packs.bytesOf("abc"), Packs.like('z', 32_765), Packs.bytesOf("abc")), 4);
+        int[] far = Packs.joined(Packs.bytesOf("abc"), Packs.like('z', 32_765), Packs.bytesOf("abc"));
+        PlainPacker plain = Packs.due(s, "the last distance", far, 4);
         dueWords("the last distance", cellsOf(plain, plain.cells.size() - 3, plain.cells.size()), "1 18:17 1");
 
         s.of(TERMS, "of others a length, then 16 as long as 3 or more of the same follow, for as many as it can; else a length by itself;");

@@ -18,7 +18,8 @@ public final class PackTest {
     private static void smallTexts() {
         Packs.due(CHECKS, "one byte", new int[] {255}, 1);
         Packs.due(CHECKS, "two bytes", new int[] {1, 1}, 1);
-        Packs.due(CHECKS, "words", Packs.bytesOf("the cat that sat on the mat that the cat had; the cat that sat on the mat that the cat had"), 4);
+        String words = "the cat that sat on the mat that the cat had; ";
+        Packs.due(CHECKS, "words", Packs.bytesOf(words + words), 4);
     }
 
     private static void textsOfFewBytes() {

@@ -71,7 +71,8 @@ final class Sentences extends Checks {
         for (Map.Entry<String, String> section : sections.entrySet()) {
             String title = section.getKey();
             if (title.startsWith("Promise") || title.equals("What it is") || title.equals("Terms")) {
-                due(title + ": left out '" + leftOut(section.getValue(), named.get(title)) + "': letters", letters(section.getValue(), named.get(title)), 0);
+                String left = leftOut(section.getValue(), named.get(title));
+                due(title + ": left out '" + left + "': letters", left.chars().filter(Character::isLetterOrDigit).count(), 0);
             }
         }
         System.out.println(sentences + " sentences");
@@ -86,9 +87,5 @@ final class Sentences extends Checks {
             }
         }
         return left.toString().strip();
-    }
-
-    private static int letters(String words, BitSet marks) {
-        return (int) leftOut(words, marks).chars().filter(Character::isLetterOrDigit).count();
     }
 }
