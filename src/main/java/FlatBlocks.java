@@ -917,11 +917,6 @@ public final class FlatBlocks {
             }
         }
 
-        private int readTold() {
-            int why = readCodes();
-            return why != 0 ? why : readSymbols();
-        }
-
         private int readKept() {
             in.toWholeByte();
             int length = in.number(16);
@@ -954,7 +949,7 @@ public final class FlatBlocks {
             distances.assign();
         }
 
-        private int readCodes() {
+        private int readTold() {
             int numbers = in.number(14);
             if (numbers < 0) {
                 return TRUNCATED;
@@ -975,7 +970,7 @@ public final class FlatBlocks {
             symbols.assign();
             distances.tell(row, symbolsTold, distancesTold);
             distances.assign();
-            return areUsable() ? 0 : BAD_CODES;
+            return areUsable() ? readSymbols() : BAD_CODES;
         }
 
         private boolean areUsable() {

@@ -2,6 +2,7 @@ import java.util.Arrays;
 import java.util.List;
 import java.util.Random;
 import java.util.stream.Collectors;
+import java.util.stream.IntStream;
 
 /** Terms: packing; promise 4, and the CHAIN of promise 1. Each text reaches its case, and its bytes are as due. */
 final class PackBounds {
@@ -76,6 +77,18 @@ final class PackBounds {
         dueTokens("abcxbcybca", "a b c x b c y b c a");
         dueTokens("abcabdabc", "a b c a b d 3:6");
         dueTokens("abxabcabc", "a b x a b c 3:3");
+        dueOthersBetween();
+    }
+
+    /** Places that the program's search holds in one row with the right one, but that have other bytes: none of them counts. */
+    private void dueOthersBetween() {
+        int[] three = Packs.bytesOf("abc");
+        int slot = 0x616263 * 0x9E3779B1 >>> 20;
+        int[] others = IntStream.range(0, 1 << 24).filter(i -> i != 0x616263 && i * 0x9E3779B1 >>> 20 == slot).limit(130)
+            .flatMap(i -> IntStream.of(i >> 16, i >> 8 & 255, i & 255)).toArray();
+        PlainPacker plain = Packs.due(s, "130 places of other bytes", Packs.joined(FRONT, three, others, three), 1);
+        dueWords("130 places of other bytes", tokensOf(plain, plain.tokens.size() - 1), "3:393");
+        s.due("130 places of other bytes: in one block", plain.toldSize < plain.keptSize, true);
     }
 
     private void chain() {
